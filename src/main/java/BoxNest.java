@@ -1066,7 +1066,7 @@ public final class BoxNest {
             byBig = 0;
             bigOnes = 0;
             findApart(hold, set);
-            findBig(set, 0, 0);
+            findBig(set, 0, hold.told);
         }
 
         /** Two boxes turn independently: they are apart just if they are with each one's least sizes. */
@@ -1100,25 +1100,26 @@ public final class BoxNest {
                     && hold.boxes[n].height + hold.boxes[m].height > truck.height;
         }
 
-        /** Tries the sets in rising order (without the highest box first), so that the first of a size is the least. */
-        private void findBig(int open, int chosen, int depth) {
+        /**
+         * Tries the sets of open boxes below the given number that go with the chosen ones, in rising order
+         * (the highest box is left out first), so that the first of a size is the least.
+         */
+        private void findBig(int open, int chosen, int below) {
             int size = Integer.bitCount(chosen);
-            if (size + Integer.bitCount(open) <= byBig || depth > MOST_BOXES) {
+            if (size + Integer.bitCount(open) <= byBig) {
                 return;
             }
-            if (open == 0) {
+            int highest = below - 1;
+            while (highest >= 0 && (open >> highest & 1) == 0) {
+                highest--;
+            }
+            if (highest < 0) {
                 byBig = size;
                 bigOnes = chosen;
                 return;
             }
-            int highest = 0;
-            for (int n = 0; n < MOST_BOXES; n++) {
-                if ((open >> n & 1) != 0) {
-                    highest = n;
-                }
-            }
-            findBig(open & ~(1 << highest), chosen, depth + 1);
-            findBig(open & apart[highest], chosen | 1 << highest, depth + 1);
+            findBig(open & ~(1 << highest), chosen, highest);
+            findBig(open & apart[highest], chosen | 1 << highest, highest);
         }
     }
 }
