@@ -176,8 +176,8 @@ public final class BoxNest {
             return FULL;
         }
         orders.begin();
-        orders.tryAll(hold, set, 0, 0);
-        return orders.setBest(hold);
+        tryOrders(set, 0, 0);
+        return setBest();
     }
 
     public int about(int b, int what) {
@@ -330,6 +330,39 @@ public final class BoxNest {
             return RANGE;
         }
         return hold.has(b) ? STATE : 0;
+    }
+
+    /** Tries all orders of the open boxes behind the row so far, the least row first. */
+    private void tryOrders(int open, int depth, int placed) {
+        int reach = hold.reach();
+        if (orders.cannotWin(placed + Integer.bitCount(open), reach)) {
+            return;
+        }
+        if (open == 0 || depth >= MOST_LISTED) {
+            orders.keep(depth, placed, reach);
+            return;
+        }
+        for (int n = 0; n < hold.told; n++) {
+            if ((open >> n & 1) != 0) {
+                orders.row[depth] = n;
+                boolean found = hold.setAtCorner(n);
+                tryOrders(open & ~(1 << n), depth + 1, found ? placed + 1 : placed);
+                if (found) {
+                    hold.putOut(n);
+                }
+            }
+        }
+    }
+
+    /** Sets the boxes of the best order: how many have found their corner. */
+    private int setBest() {
+        int placed = 0;
+        for (int i = 0; i < orders.bestSize; i++) {
+            if (hold.setAtCorner(orders.bestRow[i])) {
+                placed++;
+            }
+        }
+        return placed;
     }
 
     private int overAt(int d) {
@@ -760,11 +793,11 @@ public final class BoxNest {
         }
     }
 
-    /** The search for the best of all orders of a few boxes. */
+    /** The order that is being tried, and the best one so far. */
     private static final class Orders {
-        private final int[] row = new int[MOST_LISTED];
-        private final int[] bestRow = new int[MOST_LISTED];
-        private int bestSize;
+        final int[] row = new int[MOST_LISTED];
+        final int[] bestRow = new int[MOST_LISTED];
+        int bestSize;
         private int bestPlaced;
         private int bestReach;
 
@@ -774,50 +807,18 @@ public final class BoxNest {
             bestReach = 0;
         }
 
-        /** Tries all orders of the open boxes behind the row so far, the least row first. */
-        void tryAll(Hold hold, int open, int depth, int placed) {
-            if (cannotWin(placed + Integer.bitCount(open), hold.reach())) {
-                return;
-            }
-            if (open == 0 || depth >= MOST_LISTED) {
-                keep(depth, placed, hold.reach());
-                return;
-            }
-            for (int n = 0; n < MOST_BOXES; n++) {
-                if ((open >> n & 1) != 0) {
-                    row[depth] = n;
-                    boolean isSet = hold.setAtCorner(n);
-                    tryAll(hold, open & ~(1 << n), depth + 1, isSet ? placed + 1 : placed);
-                    if (isSet) {
-                        hold.putOut(n);
-                    }
-                }
-            }
-        }
-
         /** A later row must be better: it never wins when all else is alike. */
-        private boolean cannotWin(int mostPlaced, int leastReach) {
+        boolean cannotWin(int mostPlaced, int leastReach) {
             return mostPlaced < bestPlaced || mostPlaced == bestPlaced && leastReach >= bestReach;
         }
 
-        private void keep(int size, int placed, int reach) {
+        void keep(int size, int placed, int reach) {
             bestSize = size;
             bestPlaced = placed;
             bestReach = reach;
             for (int i = 0; i < size; i++) {
                 bestRow[i] = row[i];
             }
-        }
-
-        /** Sets the best row's boxes: how many have found their corner. */
-        int setBest(Hold hold) {
-            int placed = 0;
-            for (int i = 0; i < bestSize; i++) {
-                if (hold.setAtCorner(bestRow[i])) {
-                    placed++;
-                }
-            }
-            return placed;
         }
     }
 

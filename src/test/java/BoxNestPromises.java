@@ -445,6 +445,18 @@ public final class BoxNestPromises {
         duePlace(9, m, 2, 2, 0, 0, 1);
         due(9, "it may not", m.set(3), NONE);
 
+        // a row of all twenty, to the end of the longest truck
+        BoxNest j = new BoxNest();
+        j.truck(40, 1, 1);
+        for (int i = 0; i < 20; i++) {
+            plain(j, 2, 1, 1, 1);
+        }
+        for (int i = 0; i < 20; i++) {
+            due(9, "one of twenty", j.set(i), 1);
+            duePlace(9, j, i, 2 * i, 0, 0, 0);
+        }
+        due(9, "all in", j.count(4), 40);
+
         // a place with nothing wrong is no corner, if no end lies there
         BoxNest k = new BoxNest();
         k.truck(4, 1, 2);
@@ -960,6 +972,11 @@ public final class BoxNestPromises {
         due(21, "the first 5, not the second", n.shown(2), 59);
         due(20, "without the first", n.trucks(62), 5);
         due(21, "the second 5", n.shown(2), 62);
+        n.truck(14, 4, 4);
+        due(20, "in a longer truck none are apart", n.trucks(62), 2);
+        due(21, "by volumes", n.shown(0), 2);
+        due(21, "by big ones", n.shown(1), 1);
+        due(21, "the least", n.shown(2), 2);
 
         // 4 x 3 turned is 3 x 4: two of them lie beside each other either way unless they may not turn
         BoxNest m = new BoxNest();
