@@ -684,7 +684,9 @@ public final class BoxNest {
                 for (int n = 0; n < told; n++) {
                     if ((bits >> n & 1) != 0 && boxes[n].top == top) {
                         all = all && loads[n] <= boxes[n].bears;
-                        giveLoad(n, bits);
+                        if (boxes[n].z > 0) {
+                            giveLoad(n, bits);
+                        }
                     }
                 }
             }

@@ -836,6 +836,17 @@ public final class BoxNestEdges {
                 due("the upper one", n.place(3, 0, 0, 1, false), 1);
                 dueAll("of " + Arrays.toString(r), new int[] {n.about(0, 13), n.about(1, 13), n.about(2, 13)}, r[4], r[5], r[6]);
             }
+            // of five numbers only 2 and 4 are below: 0 stands beside, 1 is out, and 3 itself lies above
+            BoxNest beside = nest(6, 1, 2, 100);
+            for (int i = 0; i < 5; i++) {
+                heavy(beside, i == 3 ? 4 : 2, 1, 7, 20000);
+            }
+            beside.place(0, 4, 0, 0, false);
+            beside.place(4, 0, 0, 0, false);
+            beside.place(2, 2, 0, 0, false);
+            beside.place(3, 0, 0, 1, false);
+            dueAll("what is left over goes to none but those below", new int[] {beside.about(0, 13), beside.about(1, 13), beside.about(2, 13),
+                beside.about(3, 13), beside.about(4, 13)}, 0, 0, 4, 0, 3);
             BoxNest n = nest(12, 2, 2, 0);
             heavy(n, 2, 2, 1, 20000);
             heavy(n, 2, 2, 1, 20000);
@@ -906,6 +917,12 @@ public final class BoxNestEdges {
             n.take(1);
             n.place(1, 3, 1, 1, false);
             due("beside it, at its end", n.take(0), 1);
+            n.clear();
+            n.place(1, 0, 0, 0, false);
+            n.place(0, 0, 0, 1, false);
+            due("the lower number on the higher", n.take(1), 0);
+            due("the lower number first", n.take(0), 1);
+            due("then the higher", n.take(1), 1);
 
             says(10, "A PLACED BOX is taken out: 1; 0: something STANDS on it; RANGE; STATE: it isn't PLACED.");
             for (int b : new int[] {-1, 4, 20, 31, 32, LEAST, MOST}) {
@@ -1212,6 +1229,16 @@ public final class BoxNestEdges {
             h.box(3, 3, 1, 1, 0, 0, true, 0);
             h.set(0);
             dueAll("a square is not turned", placeOf(h, 0), 0, 0, 0, 0);
+            BoxNest tight = nest(3, 3, 1, 0);
+            tight.box(4, 2, 1, 1, 0, 0, true, 0);
+            tight.box(2, 4, 1, 1, 0, 0, true, 0);
+            tight.box(2, 1, 1, 1, 0, 0, true, 0);
+            tight.box(3, 2, 1, 1, 0, 0, true, 0);
+            due("too long as it is, too wide turned", tight.set(0), NONE);
+            due("too wide as it is, too long turned", tight.set(1), NONE);
+            tight.place(2, 0, 0, 0, true);
+            due("at 0, 2 too wide, at 1, 0 too long, turned at 1, 0", tight.set(3), 1);
+            dueAll("turned", placeOf(tight, 3), 1, 0, 0, 1);
             BoxNest small = nest(2, 2, 1, 0);
             small.box(3, 3, 1, 1, 0, 0, true, 0);
             due("a square that is too large either way", small.set(0), NONE);
@@ -1391,6 +1418,16 @@ public final class BoxNestEdges {
                 {1, LEAST, 1}, {1, MOST, 1}, {1, 1, LEAST}, {1, 1, MOST}};
             for (int[] b : bad) {
                 due("cut" + Arrays.toString(b), n.cut(b[0], b[1], b[2]), RANGE);
+            }
+
+            for (int size = 1; size <= 16; size++) {
+                for (int direction = 0; direction < 3; direction++) {
+                    BoxNest m = new BoxNest();
+                    worthy(m, 1, 1, 1, false, 1);
+                    due("a row of " + size, m.cut(direction == 0 ? size : 1, direction == 1 ? size : 1, direction == 2 ? size : 1), size);
+                    due("its last cell", m.piece(size - 1, direction + 1), size - 1);
+                    due("none behind it", m.piece(size, 0), NONE);
+                }
             }
 
             says(18, "The most worth of a CUT of a block; RANGE.");
@@ -1617,6 +1654,12 @@ public final class BoxNestEdges {
                 due("trucks(" + r[0] + ")", n.trucks(r[0]), r[1]);
                 due("by volumes of " + r[0], n.shown(0), r[1]);
             }
+            BoxNest least = nest(1, 1, 1, 70);
+            for (int i = 0; i < 20; i++) {
+                worthy(least, 1, 1, 1, false, 0);
+                due("cells for the least truck", least.trucks((1 << (i + 1)) - 1), i + 1);
+                due("by volumes", least.shown(0), i + 1);
+            }
             BoxNest most = nest(12, 12, 12, 70);
             BoxNest cells = nest(40, 12, 12, 70);
             for (int i = 0; i < 20; i++) {
@@ -1682,7 +1725,7 @@ public final class BoxNestEdges {
             // two alike: their sizes, may turn, truck, big ones
             int[][] rows = {{5, 4, 0, 8, 6, 2}, {5, 3, 0, 8, 6, 1}, {5, 3, 0, 8, 5, 2}, {5, 3, 1, 8, 5, 1}, {6, 4, 1, 7, 7, 2}, {6, 3, 1, 7, 7, 1},
                 {6, 4, 1, 8, 7, 1}, {6, 4, 1, 7, 8, 1}, {6, 4, 1, 8, 5, 2}, {6, 4, 1, 5, 8, 2}, {4, 6, 1, 8, 5, 2}, {4, 6, 1, 5, 8, 2},
-                {6, 4, 1, 8, 6, 1}};
+                {6, 4, 1, 8, 6, 1}, {4, 6, 1, 7, 8, 1}, {4, 6, 1, 8, 7, 1}, {4, 6, 1, 7, 7, 2}};
             for (int[] r : rows) {
                 BoxNest n = nest(r[3], r[4], 1, 70);
                 worthy(n, r[0], r[1], 1, r[2] == 1, 0);
@@ -1726,6 +1769,8 @@ public final class BoxNestEdges {
             dueAll("whatever came since", shown(n), 2, 2, 3);
             due("the second alone", n.trucks(2), 1);
             dueAll("shown anew", shown(n), 1, 1, 2);
+            due("both in the greater truck", n.trucks(3), 1);
+            dueAll("not apart any more", shown(n), 1, 1, 1);
 
             says(21, "the BIG ones, as bits (of as many the least set)");
             BoxNest m = nest(8, 1, 1, 70);
