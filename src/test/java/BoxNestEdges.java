@@ -511,6 +511,21 @@ public final class BoxNestEdges {
                 n.take(1);
             }
 
+            // where one was, or was only asked about, nothing is PLACED
+            BoxNest out = nest(4, 4, 4, 70);
+            box(out, 2, 2, 1);
+            box(out, 2, 2, 1);
+            out.place(0, 0, 0, 0, false);
+            due("on one that is in", out.wrong(1, 0, 0, 1, false), 0);
+            out.take(0);
+            due("on one that was taken out", out.wrong(1, 0, 0, 1, false), 4);
+            out.wrong(0, 0, 0, 0, false);
+            due("on one that was asked about", out.wrong(1, 0, 0, 1, false), 4);
+            out.set(0);
+            due("on one that was set", out.wrong(1, 0, 0, 1, false), 0);
+            out.clear();
+            due("on one that was cleared out", out.wrong(1, 0, 0, 1, false), 4);
+
             says("with z 0 on the floor, with its whole base");
             BoxNest m = nest(12, 12, 12, 100);
             box(m, 12, 12, 12);
