@@ -176,7 +176,7 @@ public final class BoxNest {
             return FULL;
         }
         orders.begin();
-        tryOrders(set, 0, 0);
+        tryOrders(set, 0, 0, 0);
         return setBest();
     }
 
@@ -332,8 +332,11 @@ public final class BoxNest {
         return hold.has(b) ? STATE : 0;
     }
 
-    /** Tries all orders of the open boxes behind the row so far, the least row first. */
-    private void tryOrders(int open, int depth, int placed) {
+    /**
+     * Tries all orders of the open boxes behind the row so far, the least row first. Those in cornerless are known
+     * to find no corner as long as no other box is put in: they need not seek it again.
+     */
+    private void tryOrders(int open, int depth, int placed, int cornerless) {
         int reach = hold.reach();
         if (orders.cannotWin(placed + Integer.bitCount(open), reach)) {
             return;
@@ -342,13 +345,16 @@ public final class BoxNest {
             orders.keep(depth, placed, reach);
             return;
         }
+        int lost = cornerless;
         for (int n = 0; n < hold.told; n++) {
             if ((open >> n & 1) != 0) {
                 orders.row[depth] = n;
-                boolean found = hold.setAtCorner(n);
-                tryOrders(open & ~(1 << n), depth + 1, found ? placed + 1 : placed);
-                if (found) {
+                if ((lost >> n & 1) == 0 && hold.setAtCorner(n)) {
+                    tryOrders(open & ~(1 << n), depth + 1, placed + 1, 0);
                     hold.putOut(n);
+                } else {
+                    lost |= 1 << n;
+                    tryOrders(open & ~(1 << n), depth + 1, placed, lost);
                 }
             }
         }
@@ -484,6 +490,8 @@ public final class BoxNest {
         private int commonX;
         private int commonY;
         private int commonZ;
+        /** Whether the placed boxes bear their loads, ahead of the one that seeks its corner. */
+        private boolean allBorne;
 
         Hold() {
             for (int n = 0; n < MOST_BOXES; n++) {
@@ -724,6 +732,7 @@ public final class BoxNest {
         boolean setAtCorner(int n) {
             Box box = boxes[n];
             boolean bothWays = box.turns && box.length != box.width;
+            allBorne = bearAll(in);
             listCorners(box);
             for (int c = 0; c < alongZ.size; c++) {
                 int z = alongZ.place[c];
@@ -791,7 +800,18 @@ public final class BoxNest {
             }
             Box box = boxes[n];
             box.moveTo(alongX.place[i], alongY.place[j], z, turned);
-            return isHeld(box) && !isInWay(box) && bearAll(in | 1 << n);
+            return isHeld(box) && !isInWay(box) && (touches(box) ? bearAll(in | 1 << n) : allBorne);
+        }
+
+        /** Whether the tried box stands on a placed one or holds one: else it changes no other's load and has none. */
+        private boolean touches(Box box) {
+            int near = commonX & commonY;
+            for (int n = 0; n < told; n++) {
+                if ((near >> n & 1) != 0 && (boxes[n].top == box.z || boxes[n].z == box.top)) {
+                    return true;
+                }
+            }
+            return false;
         }
     }
 

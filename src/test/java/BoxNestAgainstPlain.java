@@ -10,7 +10,15 @@ import java.util.Random;
  * tries all orders, all cuts and all sets, and shares no idea with the class but the document's words.
  */
 public final class BoxNestAgainstPlain {
+    private static final int KINDS = 7;
+    /** A kind that begins with more on a box than it bears, which only a take can bring about. */
+    private static final int LIGHT = 6;
+    /** Lengths of three boxes below a long one, its weight, that of one on it, and what the second of the three bears. */
+    private static final int[][] BURDENS = {{2, 1, 2, 2, 1, 0}, {2, 1, 2, 7, 1, 1}, {2, 3, 2, 3, 1, 1}, {3, 1, 3, 2, 3, 0}, {3, 1, 3, 4, 1, 0},
+        {3, 2, 3, 5, 1, 1}};
+
     private static int wrong = 0;
+    private static int burdened = 0;
 
     public static void main(String[] args) {
         int runs = args.length > 0 ? Integer.parseInt(args[0]) : 500;
@@ -18,7 +26,7 @@ public final class BoxNestAgainstPlain {
         for (int run = 0; run < runs && wrong < 20; run++) {
             calls += new Run(run).go();
         }
-        System.out.println(runs + " runs, " + calls + " calls: "
+        System.out.println(runs + " runs, " + calls + " calls, " + burdened + " with more on a box than it bears: "
                 + (wrong == 0 ? "all answers are as the plain model's" : wrong + " are not"));
         if (wrong != 0) {
             System.exit(1);
@@ -38,7 +46,7 @@ public final class BoxNestAgainstPlain {
         Run(int seed) {
             this.seed = seed;
             this.random = new Random(seed * 7919L + 17);
-            this.kind = seed % 6;
+            this.kind = seed % KINDS;
         }
 
         int go() {
@@ -46,6 +54,9 @@ public final class BoxNestAgainstPlain {
             if (kind != 5) {
                 truck();
                 share();
+            }
+            if (kind == LIGHT) {
+                burden();
             }
             int first = 2 + random.nextInt(kind == 2 ? 19 : 9);
             for (int i = 0; i < first; i++) {
@@ -80,6 +91,48 @@ public final class BoxNestAgainstPlain {
         }
 
         void box() {
+            if (kind == LIGHT) {
+                lightBox();
+            } else {
+                anyBox();
+            }
+        }
+
+        void lightBox() {
+            int l = random.nextInt(3) == 0 ? between(4, 5) : between(1, 2);
+            told(l, between(1, 3), l > 2 ? 100 : upTo(3));
+        }
+
+        void told(int l, int weight, int bears) {
+            due("box(" + l + ", 1, 1, " + weight + ", " + bears + ", 1, true, 1)",
+                    nest.box(l, 1, 1, weight, bears, 1, true, 1), plain.box(l, 1, 1, weight, bears, 1, true, 1));
+        }
+
+        /** With the upper one on it the long one's rests go so that the second bears its part; without it they don't. */
+        void burden() {
+            int[] way = BURDENS[random.nextInt(BURDENS.length)];
+            int ahead = upTo(2);
+            for (int i = 0; i < ahead; i++) {
+                lightBox();
+            }
+            told(way[0], 1, 20);
+            told(way[1], 1, way[5]);
+            told(way[2], 1, 20);
+            told(way[0] + way[1] + way[2], way[3], 100);
+            told(1, way[4], 0);
+            stand(ahead, 0, 0, 0);
+            stand(ahead + 1, way[0], 0, 0);
+            stand(ahead + 2, way[0] + way[1], 0, 0);
+            stand(ahead + 4, 0, 0, 2);
+            stand(ahead + 3, 0, 0, 1);
+            due("take(" + (ahead + 4) + ")", nest.take(ahead + 4), plain.take(ahead + 4));
+        }
+
+        void stand(int b, int x, int y, int z) {
+            due("place(" + b + ", " + x + ", " + y + ", " + z + ", false)", nest.place(b, x, y, z, false), plain.place(b, x, y, z, false));
+        }
+
+        void anyBox() {
             int most = kind == 1 ? 12 : kind == 4 ? 6 : 4;
             int l = between(1, most), w = between(1, most), h = between(1, Math.min(most, 6));
             int weight = between(1, random.nextInt(4) == 0 ? 1000 : 12);
@@ -104,11 +157,16 @@ public final class BoxNestAgainstPlain {
 
         void truck() {
             int l = between(0, kind == 1 ? 41 : 12), w = between(1, kind == 1 ? 13 : 6), h = between(1, kind == 1 ? 13 : 8);
+            if (kind == LIGHT) {
+                l = between(8, 10);
+                w = between(1, 2);
+                h = between(3, 4);
+            }
             due("truck(" + l + ", " + w + ", " + h + ")", nest.truck(l, w, h), plain.truck(l, w, h));
         }
 
         void share() {
-            int s = random.nextInt(3) == 0 ? 0 : random.nextInt(3) == 0 ? 50 : between(-1, 101);
+            int s = kind == LIGHT || random.nextInt(3) == 0 ? 0 : random.nextInt(3) == 0 ? 50 : between(-1, 101);
             due("share(" + s + ")", nest.share(s), plain.share(s));
         }
 
@@ -121,6 +179,13 @@ public final class BoxNestAgainstPlain {
         }
 
         void call() {
+            if (kind == LIGHT) {
+                burdened += plain.isBurdened() ? 1 : 0;
+                if (random.nextInt(4) > 0) {
+                    lightCall();
+                    return;
+                }
+            }
             switch (random.nextInt(22)) {
                 case 0: if (random.nextInt(3) == 0) box(); break;
                 case 1: if (random.nextInt(3) == 0) truck(); else share(); break;
@@ -138,6 +203,15 @@ public final class BoxNestAgainstPlain {
                 case 19: if (random.nextInt(4) == 0) cuts(); break;
                 case 20: trucks(); break;
                 default: counts(); break;
+            }
+        }
+
+        void lightCall() {
+            switch (random.nextInt(8)) {
+                case 0: set(); break;
+                case 1: best(); break;
+                case 2: case 3: take(); break;
+                default: standing(true); break;
             }
         }
 
@@ -164,7 +238,7 @@ public final class BoxNestAgainstPlain {
                 int[] other = plain.in.get(plain.in.keySet().toArray(new Integer[0])[random.nextInt(plain.in.size())]);
                 x = Math.max(0, other[0] + between(-1, 1));
                 y = Math.max(0, other[1] + between(-1, 1));
-                z = other[2] + other[5];
+                z = kind == LIGHT && random.nextBoolean() ? Math.max(0, other[2] - 1) : other[2] + other[5];
             }
             boolean turned = random.nextInt(3) == 0;
             String what = "(" + b + ", " + x + ", " + y + ", " + z + ", " + turned + ")";
@@ -420,6 +494,14 @@ public final class BoxNestAgainstPlain {
                 }
             }
             return bits;
+        }
+
+        boolean isBurdened() {
+            Map<Integer, Integer> loads = loads(in);
+            for (int m : in.keySet()) {
+                if (loads.get(m) > boxes.get(m)[4]) return true;
+            }
+            return false;
         }
 
         int wrong(int b, int x, int y, int z, boolean turned) {

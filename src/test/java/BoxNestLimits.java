@@ -23,6 +23,7 @@ public final class BoxNestLimits {
             oddCalls(seed);
         }
         dear("best", fullNest(), 0);
+        dear("best in vain", burdenedNest(), 6);
         dear("cut and piece", fullNest(), 1);
         dear("trucks", fullNest(), 2);
         dear("set", fullNest(), 3);
@@ -95,6 +96,43 @@ public final class BoxNestLimits {
         return n;
     }
 
+    /**
+     * In share 0 boxes may stand at any corner; but box 1 bears nothing and has one on it since a take,
+     * which none of the last five mends: each of their orders is sought through in vain.
+     */
+    private static BoxNest burdenedNest() {
+        BoxNest n = new BoxNest();
+        n.truck(40, 12, 12);
+        n.share(0);
+        n.box(2, 1, 1, 1, 20000, 1, true, 0);
+        n.box(1, 1, 1, 1, 0, 1, true, 0);
+        n.box(2, 1, 1, 1, 20000, 1, true, 0);
+        n.box(5, 1, 1, 2, 20000, 1, true, 0);
+        n.box(1, 1, 1, 1, 20000, 1, true, 0);
+        for (int i = 0; i < 10; i++) {
+            n.box(1 + i % 2, 1 + i % 3, 1 + i % 2, 1, 20000, 1, true, 0);
+        }
+        for (int i = 0; i < 5; i++) {
+            n.box(1 + i % 3, 2 + i % 2 * 2, 1, 2, 20000, 1, true, 0);
+        }
+        n.place(0, 0, 0, 0, false);
+        n.place(1, 2, 0, 0, false);
+        n.place(2, 3, 0, 0, false);
+        n.place(4, 0, 0, 2, false);
+        n.place(3, 0, 0, 1, false);
+        for (int i = 0; i < 10; i++) {
+            for (int t = 0; t < 12 && n.about(5 + i, 8) == 0; t++) {
+                n.place(5 + i, 6 + 3 * i, (i + t) % 11, (i * 5 + t) % 10, false);
+            }
+        }
+        n.take(4);
+        if (n.count(1) != 14 || n.best(31 << 15) != 0) {
+            wrong++;
+            System.out.println("fourteen are in, and no other one finds a corner");
+        }
+        return n;
+    }
+
     private static void dear(String what, BoxNest n, int kind) {
         long before = bytes();
         long begin = System.nanoTime();
@@ -117,6 +155,7 @@ public final class BoxNestLimits {
                     if (i % 2 == 0) n.wrong(16, i % 40, 3, i % 12, false);
                     else n.about(i % 20, 13);
                     break;
+                case 6: n.best(31 << 15); break;
                 default:
                     if (i % 2 == 0) n.box(1 + i % 3, 1, 1, 1, 0, 0, true, 1);
                     else n.cut(16, 16, 16);

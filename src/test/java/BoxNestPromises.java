@@ -30,6 +30,8 @@ public final class BoxNestPromises {
         wrongShare();
         wrongLoad();
         wrongLoadAnywhere();
+        setsUnderLoad();
+        bestUnderLoad();
         wrongWay();
         wrongRefusals();
         places();
@@ -322,6 +324,85 @@ public final class BoxNestPromises {
         due(7, "far away, but some box bears too much", n.wrong(5, 9, 3, 0, false), 8);
         due(9, "so it is set where that is mended: above", n.set(5), 1);
         duePlace(9, n, 5, 0, 0, 2, 0);
+    }
+
+    /** Boxes 0, 1, 2 hold box 3 by 2, 1, 2; box 1 bears nothing, and the take of box 4 has left one on it. */
+    private static BoxNest burdened() {
+        BoxNest n = new BoxNest();
+        n.share(0);
+        plain(n, 2, 1, 1, 1);
+        n.box(1, 1, 1, 1, 0, 1, false, 0);
+        plain(n, 2, 1, 1, 1);
+        plain(n, 5, 1, 1, 2);
+        plain(n, 1, 1, 1, 1);
+        n.place(0, 0, 0, 0, false);
+        n.place(1, 2, 0, 0, false);
+        n.place(2, 3, 0, 0, false);
+        n.place(4, 0, 0, 2, false);
+        n.place(3, 0, 0, 1, false);
+        n.take(4);
+        due(13, "more than it bears", n.about(1, 13), 1);
+        return n;
+    }
+
+    /** Where a box changes no other's load, a load that is too great already stays so; where it does, it may mend or spoil. */
+    private static void setsUnderLoad() {
+        BoxNest n = burdened();
+        plain(n, 1, 1, 1, 2);
+        due(7, "free floor, but one bears too much", n.wrong(5, 9, 3, 0, false), 8);
+        due(9, "4 by 2, 1, 2 leaves one for the second: no corner at all", n.set(5), NONE);
+        due(9, "it isn't placed", n.about(5, 8), 0);
+        due(9, "1 more above mends", n.set(4), 1);
+        due(9, "the floor is free then", n.set(5), 1);
+        duePlace(9, n, 5, 0, 1, 0, 0);
+
+        // Box 0 under the end of box 4 takes the rest of box 2, as its number is lower.
+        BoxNest m = new BoxNest();
+        m.share(0);
+        plain(m, 1, 1, 1, 1);
+        plain(m, 2, 1, 1, 1);
+        m.box(1, 1, 1, 1, 0, 1, false, 0);
+        plain(m, 2, 1, 1, 1);
+        plain(m, 6, 1, 1, 2);
+        plain(m, 1, 1, 1, 1);
+        m.place(1, 0, 0, 0, false);
+        m.place(2, 2, 0, 0, false);
+        m.place(3, 3, 0, 0, false);
+        m.place(5, 0, 0, 2, false);
+        m.place(4, 0, 0, 1, false);
+        m.take(5);
+        due(13, "more than it bears", m.about(2, 13), 1);
+        due(9, "set below mends", m.set(0), 1);
+        duePlace(9, m, 0, 5, 0, 0, 0);
+        due(13, "mended", m.about(2, 13), 0);
+
+        // Box 2 bears nothing: it may not go where the end of box 1 would come to stand on it.
+        BoxNest k = new BoxNest();
+        k.share(50);
+        k.truck(5, 2, 2);
+        plain(k, 2, 1, 1, 1);
+        plain(k, 4, 1, 1, 9);
+        k.box(2, 1, 1, 1, 0, 1, false, 0);
+        plain(k, 5, 1, 1, 1);
+        k.place(0, 0, 0, 0, false);
+        k.place(1, 0, 0, 1, false);
+        k.place(3, 0, 1, 0, false);
+        due(7, "the floor under that end", k.wrong(2, 2, 0, 0, false), 8);
+        due(9, "so it is set on box 3", k.set(2), 1);
+        duePlace(9, k, 2, 0, 1, 1, 0);
+    }
+
+    private static void bestUnderLoad() {
+        BoxNest n = burdened();
+        plain(n, 1, 1, 1, 2);
+        plain(n, 1, 1, 1, 1);
+        plain(n, 1, 1, 1, 2);
+        due(12, "none of these mends", n.best(32 + 128), 0);
+        due(12, "6 ahead of 5 and 7 mends", n.best(32 + 64 + 128), 3);
+        duePlace(12, n, 6, 0, 0, 2, 0);
+        duePlace(12, n, 5, 0, 1, 0, 0);
+        duePlace(12, n, 7, 0, 2, 0, 0);
+        due(12, "what was too much is mended", n.about(1, 13), 0);
     }
 
     private static void wrongWay() {
